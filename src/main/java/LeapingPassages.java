@@ -1120,14 +1120,14 @@ public final class LeapingPassages {
             it.x = x;
             it.y = y;
             it.z = z;
-            putPart(slot, x);
-            putPart(slot, y);
-            putPart(slot, z);
-        }
-
-        private void putPart(int slot, int part) {
-            if (part >= 0 && part < slot) {
-                row[slot].goOver(row[part]);
+            if (x >= 0 && x < slot) {
+                it.goOver(row[x]);
+            }
+            if (y >= 0 && y < slot) {
+                it.goOver(row[y]);
+            }
+            if (z >= 0 && z < slot) {
+                it.goOver(row[z]);
             }
         }
     }
@@ -1633,8 +1633,11 @@ public final class LeapingPassages {
             } else if (letter == '^') {
                 joinDownTo(IN);
                 readShort();
-            } else if (!readClosing(letter)) {
-                fault = start;
+            } else {
+                joinDownTo(EITHER);
+                if (!readClosing(letter)) {
+                    fault = start;
+                }
             }
         }
 
@@ -1660,7 +1663,6 @@ public final class LeapingPassages {
 
         /** Whether a comma or a bracket that closes can stand here; it is read then. */
         private boolean readClosing(int letter) {
-            joinDownTo(EITHER);
             int open = topSign();
             boolean isSome = open >= OPEN_SOME;
             if (letter == ')' && open == OPEN) {
