@@ -1223,23 +1223,30 @@ public final class LeapingPassages {
         }
 
         int apartCount() {
-            int count = 0;
-            int i = 0;
-            while (i < size) {
-                count++;
-                i = onward(i + 1, lasts[i] + 1);
+            int taken = 0;
+            int end = NONE;
+            for (int i = 0; i < size; i++) {
+                if (firsts[i] > end) {
+                    taken++;
+                    end = lasts[i];
+                }
             }
-            return count;
+            return taken;
         }
 
         int apartNumber(int wanted) {
-            int left = wanted;
-            int i = 0;
-            while (i < size && left > 0) {
-                left--;
-                i = onward(i + 1, lasts[i] + 1);
+            int taken = 0;
+            int end = NONE;
+            for (int i = 0; i < size; i++) {
+                if (firsts[i] > end) {
+                    if (taken == wanted) {
+                        return i;
+                    }
+                    taken++;
+                    end = lasts[i];
+                }
             }
-            return orNone(i);
+            return NONE;
         }
     }
 
@@ -1279,10 +1286,10 @@ public final class LeapingPassages {
     private static final class Lists {
         final Text page;
         final Asks asks;
-        final Spans[] made = new Spans[MOST_ASKS];
+        final Spans[] found = new Spans[MOST_ASKS];
         final Spans empty = new Spans();
         final Least least = new Least();
-        /** As bits: asks whose lists stand in made as they are now. */
+        /** As bits: asks whose lists are found and as they are now. */
         int known;
         int without = NONE;
 
@@ -1290,7 +1297,7 @@ public final class LeapingPassages {
             this.page = page;
             this.asks = asks;
             for (int i = 0; i < MOST_ASKS; i++) {
-                made[i] = new Spans();
+                found[i] = new Spans();
             }
         }
 
@@ -1314,7 +1321,7 @@ public final class LeapingPassages {
                 }
             }
             known |= wanted;
-            return made[ask];
+            return found[ask];
         }
 
         int sizeWithout(int ask, int word) {
@@ -1338,7 +1345,7 @@ public final class LeapingPassages {
 
         private void make(int ask) {
             Ask it = asks.row[ask];
-            Spans out = made[ask];
+            Spans out = found[ask];
             if (it.kind == WORD || it.kind == PHRASE) {
                 findRun(it, out);
             } else if (it.kind == REGION) {
@@ -1355,7 +1362,7 @@ public final class LeapingPassages {
         }
 
         private Spans listOf(int part) {
-            return part >= 0 && part < MOST_ASKS ? made[part] : empty;
+            return part >= 0 && part < MOST_ASKS ? found[part] : empty;
         }
 
         private void findRun(Ask it, Spans out) {
@@ -1544,9 +1551,11 @@ public final class LeapingPassages {
             askCount = asks.size;
             while (spot < tape.size && fault == NONE) {
                 int letter = tape.bytes[spot];
+                spot++;
                 if (letter == ' ') {
-                    spot++;
-                } else if (wantsPlain) {
+                    continue;
+                }
+                if (wantsPlain) {
                     readPlain(letter);
                 } else {
                     readBehind(letter);
@@ -1561,9 +1570,9 @@ public final class LeapingPassages {
             return fault;
         }
 
+        /** Reads on behind the first byte of a plain. */
         private void readPlain(int letter) {
-            int start = spot;
-            spot++;
+            int start = spot - 1;
             if (Tape.isLetter(letter)) {
                 leaf(WORD, letter - 'a', 1);
             } else if (letter == 'S') {
@@ -1622,10 +1631,10 @@ public final class LeapingPassages {
             return number;
         }
 
+        /** Reads on behind the first byte that stands behind a plain. */
         private void readBehind(int letter) {
-            int start = spot;
+            int start = spot - 1;
             int kind = kindOf(letter);
-            spot++;
             if (kind != NONE) {
                 joinDownTo(kind);
                 pushSign(kind);

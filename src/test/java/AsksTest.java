@@ -263,6 +263,20 @@ public final class AsksTest extends Checks {
         dueList("", 14);
     }
 
+    static void promise19LastPlace() {
+        text("a".repeat(58) + "cb");
+        ask("b|c");
+        dueList("5858 5959", 2);
+        x.pair(3, 0, 1);
+        dueList("5859", 3);
+        x.pair(4, 1, 0);
+        dueList("5859", 4);
+        x.pair(4, 0, 1);
+        dueList("", 5);
+        ask("{3 b, b, c}");
+        dueList("5859", 9);
+    }
+
     static void promise19Sieves() {
         // 0 a, 1 b., 2 a, 3 a/, 4 b
         text("ab.aa/b");
@@ -354,6 +368,10 @@ public final class AsksTest extends Checks {
             x.brief(ask - 1, 60);
         }
         dueList("0 102 305 606", 23);
+        x.end(2);
+        x.write(0);
+        dueList("0 606 707", 1);
+        dueList("0 102 305 606 707", 23);
         refuses(FULL, () -> x.brief(0, 1));
         badUnless(1, 60, n -> () -> x.brief(0, n));
     }
@@ -424,6 +442,34 @@ public final class AsksTest extends Checks {
         refuses(STUCK, () -> x.drop());
     }
 
+    /** What stood at a number ahead of a drop leaves nothing there. */
+    static void promise23Again() {
+        text("ab");
+        for (int i = 0; i < 300; i++) {
+            x.word(1);
+            due(3, ask("a|b"));
+            duePair(3, 2, 1, 2);
+            due(4, ask("'ba'"));
+            dueList("0 101", 3);
+            while (x.status(3) > 0) {
+                x.drop();
+            }
+            due(0, ask("T"));
+            due(1, ask("S"));
+            due(2, ask("P"));
+            due(3, ask("c"));
+            due(1, x.askOf(3, 5));
+            due(0, x.askOf(3, 6));
+            due(4, x.askOf(3, 7));
+            dueLeaf(3, 0, 2);
+            dueList("", 3);
+            badTape("a|b&c<(d|e&f<{1(a|", 18);
+            for (int left = 3; left >= 0; left--) {
+                due(left, x.drop());
+            }
+        }
+    }
+
     static void promise24() {
         due(8, ask("{3 (a | 'bcp'), S^9, (T)} - d"));
         dueLeaf(0, 0, 0);
@@ -482,12 +528,14 @@ public final class AsksTest extends Checks {
         run("18", AsksTest::promise18);
         run("18, refusals", AsksTest::promise18Refusals);
         run("19, merges", AsksTest::promise19Merges);
+        run("19, last place", AsksTest::promise19LastPlace);
         run("19, sieves", AsksTest::promise19Sieves);
         run("19, refusals", AsksTest::promise19Refusals);
         run("20", AsksTest::promise20);
         run("21", AsksTest::promise21);
         run("22", AsksTest::promise22);
         run("23", AsksTest::promise23);
+        run("23, again", AsksTest::promise23Again);
         run("24", AsksTest::promise24);
         run("24, weights", AsksTest::promise24Weights);
         close();

@@ -155,6 +155,19 @@ public final class BesideTest extends Checks {
         badUnless(0, 2, what -> () -> x.words(0, what));
     }
 
+    /** What is asked of words changes no list, not even that of the last word. */
+    static void promise43Behind() {
+        text("pbp");
+        x.word(15);
+        due(32768, x.words(0, 0));
+        dueList("0 202", 0);
+        x.change(1, 15);
+        dueList("0 101 202", 0);
+        due(32768, x.words(0, 2));
+        x.stand(3, 15, 1);
+        due(3, x.many(0));
+    }
+
     /** Without a word its places have none; a place with another one keeps what that stands for. */
     static void promise43Standing() {
         text("bdb");
@@ -193,6 +206,10 @@ public final class BesideTest extends Checks {
         due(0, x.whatIf(4, 2, 0));
         due(3, x.whatIf(0, 2, 5));
         due(2, x.many(2));
+        due(3, x.whatIf(2, 2, 1));
+        due(2, x.many(2));
+        due(0, x.whatIf(4, 2, 0));
+        dueList("202", 4);
         dueList("101 303", 3);
         due(2, x.placeOf(2, 0));
         badAsk(ask -> () -> x.whatIf(ask, 0, 0));
@@ -216,6 +233,14 @@ public final class BesideTest extends Checks {
         x.stand(1, 4, 1);
         due(1, x.bestWord(2, 2));
         dueList("1 303", 2);
+        // word 0 stands for the asked one, too, and comes ahead of it
+        due(0, x.bestWord(6, 0));
+        dueList("0", 6);
+        x.change(0, 3);
+        due(0, x.bestWord(6, 0));
+        dueList("", 6);
+        x.change(0, 15);
+        dueList("0", 6);
         due(2, x.placeOf(2, 0));
         badAsk(ask -> () -> x.bestWord(ask, 0));
         badPlace(place -> () -> x.bestWord(0, place));
@@ -417,6 +442,7 @@ public final class BesideTest extends Checks {
         run("41", BesideTest::promise41);
         run("42", BesideTest::promise42);
         run("43", BesideTest::promise43);
+        run("43, behind", BesideTest::promise43Behind);
         run("43, standing", BesideTest::promise43Standing);
         run("44", BesideTest::promise44);
         run("45", BesideTest::promise45);

@@ -282,6 +282,11 @@ public final class ListsTest extends Checks {
         due(13, x.window(x.status(3) - 1, 5, 0));
         due(2, x.window(x.status(3) - 1, 5, 1));
         due(10, x.window(x.status(3) - 1, 4, 0));
+        ask("d|e");
+        due(8, x.window(x.status(3) - 1, 2, 0));
+        ask("b");
+        due(1, x.window(x.status(3) - 1, 1, 0));
+        due(1, x.window(x.status(3) - 1, 4, 0));
         badAsk(ask -> () -> x.window(ask, 1, 0));
         badUnless(1, 60, n -> () -> x.window(2, n, 0));
         badUnless(0, 1, what -> () -> x.window(2, 1, what));

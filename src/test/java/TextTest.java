@@ -336,6 +336,26 @@ public final class TextTest extends Checks {
         due(NONE, x.holds(2));
     }
 
+    /** Asks come back with all that they were, whatever stood at their numbers since. */
+    static void promise53Asks() {
+        text("abcab");
+        ask("{2 'ab', b, c}^3");
+        x.brief(4, 2);
+        String was = seen();
+        x.image();
+        while (x.status(3) > 0) {
+            x.drop();
+        }
+        ask("p");
+        ask("T|(a<b<c<a<b)");
+        x.change(1, 3);
+        due(1, x.back());
+        due(1, was.equals(seen()) ? 1 : 0);
+        dueLeaf(0, 1, 0);
+        dueAsk(3, 11, 0, 1, 2, 2);
+        dueList("1 102 304", 3);
+    }
+
     static void promise54() {
         text("ab.ca/d");
         x.word(0);
@@ -349,6 +369,10 @@ public final class TextTest extends Checks {
         for (int what = 0; what < want.length; what++) {
             due(want[what], x.status(what));
         }
+        x.change(0, 7);
+        due(5, x.status(4));
+        x.change(4, 7);
+        due(4, x.status(4));
         none(() -> x.status(-1), () -> x.status(9), () -> x.status(11), () -> x.status(17), () -> x.status(MIN),
             () -> x.status(MAX));
         x.row(9, 0, 0);
@@ -394,6 +418,7 @@ public final class TextTest extends Checks {
         run("51", TextTest::promise51);
         run("52", TextTest::promise52);
         run("53", TextTest::promise53);
+        run("53, asks", TextTest::promise53Asks);
         run("54", TextTest::promise54);
         close();
     }
