@@ -60,6 +60,11 @@ public final class AsksTest extends Checks {
         badTape("'a3'", 2);
         badTape("a^", 2);
         badTape("a^ ", 3);
+        badTape("a^" + " ".repeat(248), 250);
+        badTape("a^", 2);
+        badTape("'ab" + " ".repeat(247), 250);
+        badTape("'ab", 3);
+        badTape("a&" + " ".repeat(248), 250);
         badTape("a^b", 2);
         badTape("a^ b", 3);
         badTape("a^0", 2);
