@@ -244,14 +244,7 @@ public final class LeapingPassages {
     // ---- new asks ----
 
     public int word(int word) {
-        if (!isWord(word)) {
-            return refuse(BAD);
-        }
-        if (asks.isFull()) {
-            return refuse(FULL);
-        }
-        asks.putLeaf(asks.size, WORD, word, 1);
-        return asks.grow();
+        return isWord(word) ? addedLeaf(WORD, word, 1) : refuse(BAD);
     }
 
     public int phrase(int s, int n) {
@@ -270,11 +263,7 @@ public final class LeapingPassages {
             }
             run |= (int) word << 4 * i;
         }
-        if (asks.isFull()) {
-            return refuse(FULL);
-        }
-        asks.putLeaf(asks.size, PHRASE, run, n);
-        return asks.grow();
+        return addedLeaf(PHRASE, run, n);
     }
 
     public int pair(int kind, int x, int y) {
@@ -285,14 +274,7 @@ public final class LeapingPassages {
     }
 
     public int region(int region) {
-        if (region < 0 || region > 2) {
-            return refuse(BAD);
-        }
-        if (asks.isFull()) {
-            return refuse(FULL);
-        }
-        asks.putLeaf(asks.size, REGION, region, 0);
-        return asks.grow();
+        return region < 0 || region > 2 ? refuse(BAD) : addedLeaf(REGION, region, 0);
     }
 
     public int brief(int x, int n) {
@@ -765,6 +747,14 @@ public final class LeapingPassages {
             return NOTHING;
         }
         return shelf.size < n ? BAD : NOT_REFUSED;
+    }
+
+    private int addedLeaf(int kind, int run, int length) {
+        if (asks.isFull()) {
+            return refuse(FULL);
+        }
+        asks.putLeaf(asks.size, kind, run, length);
+        return asks.grow();
     }
 
     private int addedOver(int kind, int number, int x, int y, int z) {
