@@ -1,8 +1,9 @@
 import java.util.Arrays;
+import java.util.List;
 import java.util.function.IntFunction;
 import java.util.function.LongSupplier;
 
-/** What the tests of the promises lean on; each promise runs on a new object x. */
+/** What the tests of the promises lean on; each promise runs on a new object x, as long as it likes. */
 abstract class Checks {
     static final int MIN = Integer.MIN_VALUE;
     static final int MAX = Integer.MAX_VALUE;
@@ -13,15 +14,25 @@ abstract class Checks {
     static final int STUCK = -5;
     static final int FULL = -6;
 
-    static LeapingPassages x;
+    static Counted x;
 
     private static int wrong = 0;
+    private static long answers = 0;
     private static String running = "";
 
     static void run(String promise, Runnable calls) {
-        running = promise;
-        x = new LeapingPassages();
+        begin("promise " + promise, MAX);
         calls.run();
+    }
+
+    static void begin(String name, int mostCalls) {
+        running = name;
+        x = new Counted(mostCalls);
+    }
+
+    /** How many answers were looked at. */
+    static long answers() {
+        return answers;
     }
 
     static void close() {
@@ -31,28 +42,33 @@ abstract class Checks {
         }
     }
 
-    private static void tell(String text) {
+    static void tell(String text) {
         wrong++;
         StringBuilder lines = new StringBuilder();
         for (StackTraceElement e : new Throwable().getStackTrace()) {
-            if (!e.getClassName().equals("Checks") && e.getClassName().endsWith("Test")) {
-                lines.append(lines.length() == 0 ? "" : " < ").append(e.getLineNumber());
+            if (!List.of("Checks", "Edges").contains(e.getClassName()) && !e.getClassName().startsWith("java.")) {
+                lines.append(lines.length() == 0 ? "" : " < ").append(e.getFileName()).append(' ').append(e.getLineNumber());
             }
         }
-        System.out.println("promise " + running + ", lines " + lines + ": " + text);
+        System.out.println(running + ", lines " + lines + ": " + text);
     }
 
     static void due(long want, long got) {
+        answers++;
         if (want != got) {
             tell("answered " + got + ", due is " + want);
         }
     }
 
-    static void dueList(String want, int ask) {
-        String got = list(ask);
+    static void dueText(String want, String got) {
+        answers++;
         if (!want.equals(got)) {
-            tell("list of " + ask + " is " + got + ", due is " + want);
+            tell("seen is " + got + ", due is " + want);
         }
+    }
+
+    static void dueList(String want, int ask) {
+        dueText(want, list(ask));
     }
 
     // ---- refusals ----
