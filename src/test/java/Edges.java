@@ -129,6 +129,15 @@ abstract class Edges extends Checks {
         }
     }
 
+    /** Numbers of no ask are BAD: where there are none, 8 and 24, and where one was that is no more. */
+    static void noAsk(IntFunction<LongSupplier> call) {
+        beyond(Edges::fresh, 0, -1, call);
+        beyond(Edges::busy, 0, 7, call);
+        beyond(Edges::full, 0, 23, call);
+        refused(BAD, () -> { busy(); x.drop(); }, call.apply(7));
+        refused(BAD, () -> { x.image(); places(60, 2); words(24); x.back(); }, call.apply(0));
+    }
+
     /** No call of these is refused, and all stays as it was. */
     static void changesNothing(Runnable state, Runnable calls) {
         staysBut(new int[5], state, calls);

@@ -21,13 +21,6 @@ final class EdgesBeside extends Edges {
         foldRefusals();
     }
 
-    private static void noAsk(IntFunction<LongSupplier> call) {
-        beyond(Edges::fresh, 0, -1, call);
-        beyond(Edges::busy, 0, 7, call);
-        beyond(Edges::full, 0, 23, call);
-        refused(BAD, () -> { busy(); x.drop(); }, call.apply(7));
-    }
-
     /** Places 0 a to 4 e; asks 0 a, 1 b, 2 'ab', 3 p (without spans), 4 the text. */
     private static void five() {
         again();
@@ -99,6 +92,21 @@ final class EdgesBeside extends Edges {
             under(3, 3, 0, 0, 0);
             under(2, 4, 1, 0, 0);
             under(4, 2, 0, 1, 0);
+            // the same span is of other numbers in the two lists
+            again();
+            text("abcc");
+            ask("a|b|c");
+            under(4, 3, 2, 2, 2);
+            under(3, 4, 2, 2, 2);
+            under(4, 0, 1, 1, 1);
+            under(0, 4, 1, 1, 1);
+            under(4, 1, 1, 1, 1);
+            under(2, 3, 0, 0, 0);
+            // without places none has spans
+            again();
+            words(2);
+            under(0, 0, 0, 0, 0);
+            under(0, 1, 0, 0, 0);
             again();
             places(60, 0);
             x.word(0);
@@ -267,6 +275,9 @@ final class EdgesBeside extends Edges {
         edge("How many SPANS an ASK has, IF a PLACE had a WORD.", () -> {
             places(60, 0);
             words(16);
+            due(60, x.many(0));
+            due(59, x.whatIf(0, 30, 1));
+            due(60, x.many(0));
             for (int place : new int[] {0, 59}) {
                 due(60, x.whatIf(0, place, 0));
                 due(59, x.whatIf(0, place, 15));
@@ -320,6 +331,12 @@ final class EdgesBeside extends Edges {
             again();
             x.write(0);
             ask("T-a");
+            due(0, x.many(2));
+            due(1, x.bestWord(2, 0));
+            again();
+            x.write(1);
+            ask("T-a");
+            due(1, x.many(2));
             due(1, x.bestWord(2, 0));
         });
         edge("BAD.", () -> {
@@ -331,13 +348,13 @@ final class EdgesBeside extends Edges {
     }
 
     /** Of a call with a shelf and a number of elements, or of twos: each refusal in its order. */
-    private static void rowRefusals(int high, int each, IntFunction<IntFunction<LongSupplier>> call) {
+    private static void rowRefusals(int low, int high, int each, IntFunction<IntFunction<LongSupplier>> call) {
         edge("NOTHING;", () -> {
             for (int s : new int[] {6, 7}) {
-                refused(NOTHING, Edges::busy, call.apply(s).apply(1), call.apply(s).apply(high));
+                refused(NOTHING, Edges::busy, call.apply(s).apply(low), call.apply(s).apply(high));
             }
         });
-        edge("OTHER;", () -> refused(OTHER, Edges::busy, call.apply(5).apply(1), call.apply(5).apply(high)));
+        edge("OTHER;", () -> refused(OTHER, Edges::busy, call.apply(5).apply(low), call.apply(5).apply(high)));
         edge("BAD: fewer elements", () -> {
             // rows of 5, 2, 3 and 0 elements, and one that is full
             refused(BAD, Edges::busy, call.apply(0).apply(5 / each + 1), call.apply(1).apply(2 / each + 1),
@@ -412,7 +429,7 @@ final class EdgesBeside extends Edges {
             }
             rowBads(0, 20, s -> n -> () -> x.kinds(0, 1, s, n));
         });
-        rowRefusals(20, 2, s -> n -> () -> x.kinds(0, 1, s, n));
+        rowRefusals(0, 20, 2, s -> n -> () -> x.kinds(0, 1, s, n));
     }
 
     private static void judge() {
@@ -469,6 +486,12 @@ final class EdgesBeside extends Edges {
             due(NONE, x.judge(3, 1, 0));
             row(1, 4, 0, 1);
             due(NONE, x.judge(2, 1, 1));
+            again();
+            x.region(2);
+            x.row(0, 0, 40);
+            due(NONE, x.judge(0, 0, 0));
+            due(0, x.judge(0, 0, 1));
+            due(0, x.judge(0, 0, 20));
         });
         edge("BAD ask, SHELF, n;", () -> {
             noAsk(ask -> () -> x.judge(ask, 0, 1));
@@ -477,7 +500,7 @@ final class EdgesBeside extends Edges {
             }
             rowBads(0, 20, s -> n -> () -> x.judge(0, s, n));
         });
-        rowRefusals(20, 2, s -> n -> () -> x.judge(0, s, n));
+        rowRefusals(0, 20, 2, s -> n -> () -> x.judge(0, s, n));
         edge("(NONE isn't refused.)", () -> changesNothing(() -> { busy(); x.word(15); }, () -> due(NONE, x.judge(8, 0, 0))));
     }
 
@@ -511,6 +534,12 @@ final class EdgesBeside extends Edges {
             row(0, 4, 5, 0, 1);
             due(1, x.leap(0, 0, 1));
             due(1, x.leap(0, 0, 3));
+            // without places there is no span to go to
+            again();
+            words(1);
+            x.row(0, 0, 40);
+            due(NONE, x.leap(0, 0, 1));
+            due(NONE, x.leap(0, 0, 40));
         });
         edge("BAD ask, SHELF, n;", () -> {
             noAsk(ask -> () -> x.leap(ask, 0, 1));
@@ -519,7 +548,7 @@ final class EdgesBeside extends Edges {
             }
             rowBads(0, 40, s -> n -> () -> x.leap(0, s, n));
         });
-        rowRefusals(40, 1, s -> n -> () -> x.leap(0, s, n));
+        rowRefusals(0, 40, 1, s -> n -> () -> x.leap(0, s, n));
         edge("(NONE isn't refused.)", () -> changesNothing(Edges::busy, () -> {
             due(NONE, x.leap(0, 0, 5));
             due(NONE, x.leap(0, 2, 1));
@@ -553,8 +582,13 @@ final class EdgesBeside extends Edges {
             due(58, x.many(0));
         });
         edge("NONE: no i-th.", () -> {
-            places(60, 0);
             words(2);
+            x.row(0, 0, 6);
+            for (int n = 1; n <= 6; n++) {
+                due(0, x.fold(2, 0, n, NONE));
+                due(NONE, x.fold(2, 0, n, 0));
+            }
+            places(60, 0);
             row(0, 0, 0, 1);
             due(5959, x.fold(2, 0, 2, 59));
             due(NONE, x.fold(2, 0, 2, 60));
@@ -577,7 +611,7 @@ final class EdgesBeside extends Edges {
                 refused(BAD, Edges::busy, () -> x.fold(2, s, 1, -2), () -> x.fold(2, s, 1, MIN));
             }
         });
-        rowRefusals(6, 1, s -> n -> () -> x.fold(2, s, n, NONE));
+        rowRefusals(1, 6, 1, s -> n -> () -> x.fold(2, s, n, NONE));
         edge("STUCK: an element that is no ASK.", () -> {
             refused(STUCK, Edges::busy, () -> x.fold(2, 0, 5, NONE), () -> x.fold(8, 0, 5, 0), () -> x.fold(2, 1, 1, NONE),
                 () -> x.fold(2, 1, 2, MAX), () -> x.fold(2, 2, 1, NONE));

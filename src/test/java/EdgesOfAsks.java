@@ -79,6 +79,17 @@ final class EdgesOfAsks extends Edges {
             due(1, x.feed('c'));
             due(1, x.ask());
             dueLeaf(1, 0, 2);
+            // a tape on which brackets were open, or a number missing, is none of the next one's
+            for (String open : new String[] {"(", "((a", "a|", "a|b&c<d@", "'ab", "{1a,", "{1a,b,c", "a^", "{"}) {
+                due(-20 - open.length(), ask(open));
+                due(-21, ask("a)"));
+                due(-21, ask("a}"));
+                due(-21, ask("a,"));
+                due(-22, ask("a|"));
+                int last = x.status(3);
+                due(last, ask("b"));
+                dueLeaf(last, 0, 1);
+            }
         });
     }
 
@@ -192,6 +203,19 @@ final class EdgesOfAsks extends Edges {
             words(13);
             due(23, x.pair(8, 22, 0));
             duePair(23, 8, 22, 0);
+            // over the asks of the greatest numbers, whose lists aren't looked at first
+            again();
+            text("nop");
+            words(16);
+            words(5);
+            due(21, x.brief(15, 1));
+            due(22, x.pair(4, 14, 21));
+            due(23, x.some(2, 22, 13, 20));
+            dueList("2", 23);
+            dueList("102", 22);
+            x.drop();
+            due(23, x.pair(2, 21, 22));
+            dueList("202", 23);
         });
         edge("BAD;", () -> {
             beyond(Edges::busy, 2, 8, kind -> () -> x.pair(kind, 0, 0));
@@ -217,6 +241,7 @@ final class EdgesOfAsks extends Edges {
             for (int region = 0; region <= 2; region++) {
                 due(region, x.region(region));
                 dueLeaf(region, 9, region);
+                due(0, x.askOf(region, 7));
             }
             words(20);
             due(23, x.region(2));
@@ -330,6 +355,19 @@ final class EdgesOfAsks extends Edges {
             due(1, x.word(9));
             dueList("", 1);
             dueList("0", 0);
+            // nor how many and how deep it was, what words stood in it, and what it was over
+            ask("{3a,'cde',(a&b)^5}");
+            for (int left = x.status(3) - 1; left >= 0; left--) {
+                due(left, x.drop());
+            }
+            for (int ask = 0; ask < 12; ask++) {
+                due(ask, ask % 2 == 0 ? ask("b") : x.region(2));
+                int[] want = {ask % 2 == 0 ? 0 : 9, NONE, NONE, NONE, ask % 2 == 0 ? 1 : 2, 1, 0, ask % 2 == 0 ? 2 : 0};
+                for (int what = 0; what <= 7; what++) {
+                    due(want[what], x.askOf(ask, what));
+                }
+                dueList(ask % 2 == 0 ? "101" : "1", ask);
+            }
         });
         edge("STUCK: there are none.", () -> {
             refused(STUCK, Edges::fresh, () -> x.drop());
@@ -370,6 +408,11 @@ final class EdgesOfAsks extends Edges {
             due(0, x.status(12));
         });
         edge("WORDS (7; bits) that stand anywhere in it.", () -> {
+            due(4, ask("S|T|P"));
+            for (int ask = 0; ask <= 4; ask++) {
+                due(0, x.askOf(ask, 7));
+            }
+            again();
             due(0, ask("S"));
             due(0, x.askOf(0, 7));
             due(1, ask("a"));

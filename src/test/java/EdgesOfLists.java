@@ -27,15 +27,6 @@ final class EdgesOfLists extends Edges {
         x.word(1);
     }
 
-    /** Of a call with an ask, and with numbers that may be, those are BAD that are no asks. */
-    private static void noAsk(java.util.function.IntFunction<java.util.function.LongSupplier> call) {
-        beyond(Edges::fresh, 0, -1, call);
-        beyond(Edges::busy, 0, 7, call);
-        beyond(Edges::full, 0, 23, call);
-        refused(BAD, () -> { busy(); x.drop(); }, call.apply(7));
-        refused(BAD, () -> { x.image(); places(60, 2); words(24); x.back(); }, call.apply(0));
-    }
-
     private static void many() {
         in("Promise 26");
         edge("How many SPANS the LIST of an ASK has.", () -> {
@@ -235,7 +226,12 @@ final class EdgesOfLists extends Edges {
             lengths(1, 60, 60, 60);
             lengths(2, 3, 3, 174);
             again();
+            // the longest one behind all, and ahead of all
             text("ab.c.def");
+            x.region(0);
+            lengths(0, 1, 3, 6);
+            again();
+            text("abc.d.ef");
             x.region(0);
             lengths(0, 1, 3, 6);
             again();

@@ -54,6 +54,15 @@ final class EdgesOfTerms2 extends Edges {
             dueList("1 102 304", 11);
             ask("'abc'|b");
             dueList("101 404", 14);
+            // at the first place of all, and at the last one
+            again();
+            x.write(1);
+            places(58, 0);
+            x.write(2);
+            ask("'ac'|c");
+            ask("'ba'|b");
+            dueList("5959", 2);
+            dueList("0", 5);
         });
     }
 
@@ -203,6 +212,7 @@ final class EdgesOfTerms2 extends Edges {
             ordered("", 0, 0);
             ordered("", 7, 5);
             ordered("", 5, 7);
+            ordered("", 5, 3);
             ordered("", 5, 5);
             again();
             x.write(0);
@@ -212,6 +222,19 @@ final class EdgesOfTerms2 extends Edges {
             dueList("59", 2);
             x.pair(4, 1, 0);
             dueList("", 3);
+            again();
+            text("aaabcb");
+            ask("a<b|b<a|b<c|c<b");
+            dueList("203", 2);
+            dueList("", 5);
+            dueList("304", 9);
+            dueList("405", 13);
+            again();
+            places(60, 0);
+            ask("a<a");
+            due(59, x.many(2));
+            due(1, x.span(2, 0));
+            due(5859, x.span(2, 58));
         });
     }
 
@@ -359,10 +382,22 @@ final class EdgesOfTerms2 extends Edges {
             due(12, ask("a^1^60"));
             dueAsk(11, 10, 10, NONE, NONE, 1);
             dueAsk(12, 10, 11, NONE, NONE, 60);
+            // short is what is ahead in the test, with all that it is tested by, and no more
+            due(18, ask("a@b^3!c"));
+            duePair(15, 5, 13, 14);
+            dueAsk(16, 10, 15, NONE, NONE, 3);
+            duePair(18, 6, 16, 17);
             // a test is of one plain, and not of what is ahead
-            due(17, ask("a<b@c"));
-            duePair(16, 5, 14, 15);
-            duePair(17, 4, 13, 16);
+            again();
+            due(4, ask("a<b@c"));
+            duePair(3, 5, 1, 2);
+            duePair(4, 4, 0, 3);
+            for (int kind = 2; kind <= 4; kind++) {
+                int first = x.status(3);
+                due(first + 3, ask("a" + "|&<".charAt(kind - 2) + "b^2"));
+                dueAsk(first + 2, 10, first + 1, NONE, NONE, 2);
+                duePair(first + 3, kind, first, first + 2);
+            }
             for (String sign : new String[] {"@", "!", "#", "-"}) {
                 missing(sign);
                 faultOfAsk(Edges::calm, "a" + sign + "^1", 2);
@@ -370,6 +405,7 @@ final class EdgesOfTerms2 extends Edges {
             faultOfAsk(Edges::calm, "^1", 0);
             again();
             due(23, ask("a" + "^1".repeat(23)));
+            dueAsk(23, 10, 22, NONE, NONE, 1);
         });
     }
 
@@ -538,6 +574,22 @@ final class EdgesOfTerms2 extends Edges {
             faultOfAsk(Edges::fresh, " ".repeat(250), 250);
             faultOfAsk(Edges::fresh, "a" + "|a".repeat(124) + "|", 250);
             faultOfAsk(Edges::fresh, "a" + " ".repeat(248) + "q", 249);
+            for (String open : new String[] {"'", "'ab", "'abcd", "a^", "{", "{3", "{1a,b,c", "(a", "a@"}) {
+                faultOfAsk(Edges::fresh, open + " ".repeat(250 - open.length()), 250);
+                faultOfAsk(Edges::fresh, " ".repeat(250 - open.length()) + open, 250);
+            }
+            // what stood behind on a longer tape is no part of this one
+            String[][] longer = {{"'ab'", "'ab"}, {"'abc'", "'ab"}, {"a^ 1", "a^"}, {"a^1", "a^"}, {"a^11", "a^"}, {"{1a,b,c}", "{1a,b,c"},
+                {"(a)", "(a"}, {"a|b", "a|"}};
+            for (String[] two : longer) {
+                again();
+                due(0, Math.min(0, ask(two[0])));
+                due(-20 - two[1].length(), ask(two[1]));
+            }
+            again();
+            due(1, ask("a^12"));
+            due(3, ask("a^1"));
+            due(1, x.askOf(3, 4));
         });
     }
 }

@@ -206,6 +206,15 @@ final class EdgesOfTerms3 extends Edges {
             x.change(1, 0);
             due(10080, x.score(5, 0));
             due(5040, x.score(5, 1));
+            // a sentence that ends is no end of a part
+            again();
+            text("a.b.a/b.");
+            ask("a<a|b");
+            due(1680, x.score(2, 0));
+            due(0, x.score(2, 1));
+            due(5040, x.score(3, 0));
+            due(5040, x.score(3, 1));
+            refused(BAD, () -> { text("a.b.a/b."); words(1); }, () -> x.score(0, 2));
             again();
             places(60, 0);
             x.word(0);
@@ -224,7 +233,14 @@ final class EdgesOfTerms3 extends Edges {
             for (int i = 0; i < 5; i++) {
                 due(i, x.rank(1, i));
             }
-            // 252 and 315 are more and less by their cut score alone
+            again();
+            text("b./a.b./a.a");
+            x.word(0);
+            int[] parts = {2, 1, 0};
+            for (int i = 0; i < 3; i++) {
+                due(parts[i], x.rank(0, i));
+            }
+            // 252 of the one part and 315 of the other
             again();
             text("a".repeat(20) + "/" + "a".repeat(16));
             x.region(1);
@@ -297,6 +313,17 @@ final class EdgesOfTerms3 extends Edges {
             gap(0, 9, d);
             gap(1, 9, c);
             due(0, x.status(12));
+            // from the last of the one to the first of the other, however long they are
+            again();
+            text("abcabcd");
+            ask("'abc'|'cd'|d|a@'bca'");
+            gap(0, 0, 1);
+            gap(0, 0, 3);
+            x.change(3, 7);
+            x.change(4, 7);
+            gap(2, 0, 1);
+            gap(2, 1, 0);
+            gap(3, 0, 3);
             again();
             x.write(0);
             x.write(1);

@@ -351,27 +351,50 @@ final class EdgesOfText extends Edges {
             due(1, x.status(7));
         });
         edge("All is kept,", () -> {
-            x.stand(15, 0, 1);
-            x.days(60);
-            words(24);
-            String was = Looks.at(x, 0);
-            due(1, x.image());
-            text(".");
-            x.change(59, 3);
-            x.change(0, 3);
-            x.stand(15, 0, 0);
-            x.stand(0, 15, 1);
-            x.seed(MIN);
-            for (int i = 0; i < 24; i++) {
-                x.drop();
+            for (int look : new int[] {0, 3, 4, 5, 6, 7, 8, 9}) {
+                again();
+                x.stand(15, 0, 1);
+                x.days(60);
+                words(24);
+                String was = Looks.at(x, look);
+                again();
+                x.stand(15, 0, 1);
+                x.days(60);
+                words(24);
+                due(1, x.image());
+                for (int place = 0; place < 60; place++) {
+                    x.change(place, 3);
+                }
+                x.end(2);
+                x.stand(15, 0, 0);
+                x.stand(0, 15, 1);
+                x.seed(MIN);
+                for (int i = 0; i < 24; i++) {
+                    x.drop();
+                }
+                x.region(2);
+                for (int ask = 1; ask < 24; ask++) {
+                    x.brief(ask - 1, 60);
+                }
+                due(1, x.many(23));
+                due(1, x.back());
+                dueText(was, Looks.at(x, look));
             }
-            ask("T^3");
-            due(1, x.back());
-            dueText(was, Looks.at(x, 0));
+            // the mark of the last place, of 30 and of 60
+            for (int size : new int[] {30, 60}) {
+                again();
+                places(size, 0);
+                x.image();
+                x.end(2);
+                x.back();
+                due(0, x.placeOf(size - 1, 1));
+                due(0, x.end(1));
+            }
             again();
             busy();
             x.image();
             String asks = Looks.at(x, 5);
+            String lists = Looks.at(x, 7);
             String places = Looks.at(x, 3);
             x.days(60);
             for (int i = 0; i < 8; i++) {
@@ -380,6 +403,7 @@ final class EdgesOfText extends Edges {
             words(24);
             due(1, x.back());
             dueText(asks, Looks.at(x, 5));
+            dueText(lists, Looks.at(x, 7));
             dueText(places, Looks.at(x, 3));
         });
         edge("but THE TAPE, SHELVES and REFUSALS", () -> {
@@ -426,6 +450,23 @@ final class EdgesOfText extends Edges {
             due(1, x.back());
             due(3, x.status(0));
             dueList("101 202", 0);
+            // an ask over others has its list, though theirs are not looked at first
+            again();
+            text("abcab");
+            ask("'ab'|'bc'<a");
+            x.image();
+            for (int i = 0; i < 5; i++) {
+                x.drop();
+            }
+            words(5);
+            for (int ask = 0; ask < 5; ask++) {
+                x.many(ask);
+            }
+            x.back();
+            dueList("1 103 304", 4);
+            x.back();
+            dueList("103", 3);
+            dueList("1 304", 0);
             changesNothing(() -> { busy(); x.image(); }, () -> due(1, x.back()));
         });
         edge("(SHELVES with ASKS hold those of the same numbers, or NOTHING): 1.", () -> {
@@ -482,7 +523,16 @@ final class EdgesOfText extends Edges {
             for (int what = 0; what <= 3; what++) {
                 due(1, x.status(what));
             }
-            text("./" + "a./".repeat(58) + "a");
+            text("a.a/a./a.");
+            due(5, x.status(0));
+            due(4, x.status(1));
+            due(3, x.status(2));
+            x.write(0);
+            due(5, x.status(1));
+            due(3, x.status(2));
+            again();
+            text("a./".repeat(59) + "a");
+            x.word(0);
             due(60, x.status(0));
             due(60, x.status(1));
             due(60, x.status(2));
